@@ -789,31 +789,25 @@ public final class CreaseFlat {
             int barred = inPile;
             for (int c = 0; c < p.creases; c++) {
                 if (has(open[size], c)) {
-                    barred |= p.through[c];
+                    barred |= p.through[c] | barredFromClosing(p, c);
                 }
             }
             int fit = 0;
             for (int face = 0; face < p.faces; face++) {
-                if (!has(barred, face) && (below[face] & ~inPile) == 0 && !crosses(p, face)) {
+                if (!has(barred, face) && (below[face] & ~inPile) == 0) {
                     fit |= 1 << face;
                 }
             }
             return fit;
         }
 
-        /** Whether a crease that this face closes was opened before one that must not cross it and is open yet. */
-        private boolean crosses(Paper p, int face) {
-            int closing = open[size] & p.touching[face];
-            for (int c = 0; closing != 0 && c < p.creases; c++) {
-                if (has(closing, c)) {
-                    int partner = p.firsts[c] == face ? p.seconds[c] : p.firsts[c];
-                    int openedLater = open[size] & ~open[heights[partner] + 1];
-                    if ((openedLater & p.across[c]) != 0) {
-                        return true;
-                    }
-                }
-            }
-            return false;
+        /** Of an open crease the face that is not in the pile, if a crease that must not cross was opened later. */
+        private int barredFromClosing(Paper p, int crease) {
+            boolean firstLies = has(inPile, p.firsts[crease]);
+            int lying = firstLies ? p.firsts[crease] : p.seconds[crease];
+            int missing = firstLies ? p.seconds[crease] : p.firsts[crease];
+            int openedLater = open[size] & ~open[heights[lying] + 1];
+            return (openedLater & p.across[crease]) != 0 ? 1 << missing : 0;
         }
     }
 

@@ -370,6 +370,7 @@ public final class PromiseTest {
         due.is("14: marks ahead of through", y.check(0, 120), 10100);
         // Crease 0 has its place within face 2; its end is no more than at the place.
         due.is("14: at its end", withStrip(1, 1, 1).check(0, 120), 0);
+        due.is("14: through by face 0", withStrip(3, 1, 3).check(0, 201), 20100);
         // Faces 2 and 3 lie over crease 0, and both lie within it: the lesser face is told.
         CreaseFlat z = withStrip(5, 5, 9, 9);
         due.is("14: the least face", z.check(0, 1230), 20002);
@@ -585,6 +586,17 @@ public final class PromiseTest {
         steps(x, 6, 10, 6, 4);
     }
 
+    /** No two creases of such lengths can ever lie at one place. */
+    private static void promise21MostFolds() {
+        CreaseFlat x = withStrip(256, 128, 64, 32, 16, 8, 4, 2, 1);
+        due.is("21: the most folds", x.simple(0), 8);
+        for (int i = 0; i < 8; i++) {
+            due.is("21: step " + i + " can be done", x.fold(0, x.step(i)), 1);
+        }
+        due.is("21: all is folded", x.flatten(0), 8);
+        due.is("21: no ninth step", x.step(8), STATE);
+    }
+
     private static void promise22Step() {
         CreaseFlat x = withStrip(1, 1, 1, 1);
         due.is("22: none was told", x.step(0), STATE);
@@ -732,6 +744,7 @@ public final class PromiseTest {
         promise19Clash();
         promise20InClash();
         promise21Simple();
+        promise21MostFolds();
         promise22Step();
         promise23Fold();
         promise24Flatten();

@@ -667,6 +667,8 @@ public final class CreaseFlat {
         private int inPile = 0;
         /** Of each face, those that must lie below it. */
         private final int[] below = new int[MOST_FACES];
+        /** The faces that have such. */
+        private int demanding = 0;
         /** By the size of the pile: the creases with just one face in it, and the faces still to be tried on it. */
         private final int[] open = new int[MOST_FACES + 1];
         private final int[] untried = new int[MOST_FACES + 1];
@@ -683,6 +685,7 @@ public final class CreaseFlat {
             open[0] = 0;
             begun = false;
             Arrays.fill(below, 0);
+            demanding = 0;
             for (int c = 0; c < p.creases; c++) {
                 if (has(countingMarks, c) && p.marks[c] != ANY) {
                     demandTurn(c, p.marks[c]);
@@ -708,6 +711,7 @@ public final class CreaseFlat {
         void demandBelow(int lower, int upper) {
             if (paper != null && paper.hasFace(lower) && paper.hasFace(upper)) {
                 below[upper] |= 1 << lower;
+                demanding |= 1 << upper;
             }
         }
 
@@ -787,18 +791,28 @@ public final class CreaseFlat {
         /** The faces that can come next and break no rule with those in the pile. */
         private int candidates(Paper p) {
             int barred = inPile;
+            int nowOpen = open[size];
             for (int c = 0; c < p.creases; c++) {
-                if (has(open[size], c)) {
-                    barred |= p.through[c] | barredFromClosing(p, c);
+                if ((nowOpen >> c & 1) != 0) {
+                    barred |= p.through[c];
+                    if ((nowOpen & p.across[c]) != 0) {
+                        barred |= barredFromClosing(p, c);
+                    }
                 }
             }
-            int fit = 0;
+            int fit = ((1 << p.faces) - 1) & ~barred;
+            return (fit & demanding) == 0 ? fit : readyAmong(p, fit);
+        }
+
+        /** Of these faces, those that have all in the pile that must lie below them. */
+        private int readyAmong(Paper p, int fit) {
+            int ready = 0;
             for (int face = 0; face < p.faces; face++) {
-                if (!has(barred, face) && (below[face] & ~inPile) == 0) {
-                    fit |= 1 << face;
+                if (has(fit, face) && (below[face] & ~inPile) == 0) {
+                    ready |= 1 << face;
                 }
             }
-            return fit;
+            return ready;
         }
 
         /** Of an open crease the face that is not in the pile, if a crease that must not cross was opened later. */

@@ -173,17 +173,43 @@ final class PlainPaper {
         }
     }
 
-    /** By trying every way to mark what has the mark 0. */
+    /** Every way to mark all creases is tried that leaves the marks as they are. */
     int foldings() {
-        Set<String> met = new HashSet<>();
-        for (int[] row : allowed()) {
-            StringBuilder turns = new StringBuilder();
-            for (int c = 0; c < mark.length; c++) {
-                turns.append(turn(c, heights(row)));
+        List<int[]> rows = allowed();
+        int count = 0;
+        for (int valleys = 0; valleys < 1 << mark.length; valleys++) {
+            if (keepsMarks(valleys) && isMet(valleys, rows)) {
+                count++;
             }
-            met.add(turns.toString());
         }
-        return met.size();
+        return count;
+    }
+
+    private static int markIn(int valleys, int crease) {
+        return (valleys >> crease & 1) != 0 ? 2 : 1;
+    }
+
+    private boolean keepsMarks(int valleys) {
+        for (int c = 0; c < mark.length; c++) {
+            if (mark[c] != 0 && mark[c] != markIn(valleys, c)) {
+                return false;
+            }
+        }
+        return true;
+    }
+
+    private boolean isMet(int valleys, List<int[]> rows) {
+        for (int[] row : rows) {
+            int[] height = heights(row);
+            boolean all = true;
+            for (int c = 0; c < mark.length && all; c++) {
+                all = turn(c, height) == markIn(valleys, c);
+            }
+            if (all) {
+                return true;
+            }
+        }
+        return false;
     }
 
     List<Integer> clash() {

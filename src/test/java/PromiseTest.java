@@ -1,40 +1,6 @@
 /** Each promise of the document: ordinary inputs, the edges that it names, and wrong inputs. */
-public final class PromiseTest {
+public final class PromiseTest extends Sheets {
     private static final Due due = new Due("PromiseTest");
-    private static final int NONE = -1, UNKNOWN = -101, OUTSIDE = -102, STATE = -103, ROOM = -104;
-    private static final int MIN = Integer.MIN_VALUE, MAX = Integer.MAX_VALUE;
-
-    private static void lengths(CreaseFlat x, int paper, int... v) {
-        for (int f = 0; f < v.length; f++) {
-            x.length(paper, f, v[f]);
-        }
-    }
-
-    private static void marks(CreaseFlat x, int paper, int... m) {
-        for (int c = 0; c < m.length; c++) {
-            x.mark(paper, c, m[c]);
-        }
-    }
-
-    private static CreaseFlat withStrip(int... v) {
-        CreaseFlat x = new CreaseFlat();
-        x.strip(v.length);
-        lengths(x, 0, v);
-        return x;
-    }
-
-    private static CreaseFlat withCorner(int... v) {
-        CreaseFlat x = new CreaseFlat();
-        x.corner(v.length);
-        lengths(x, 0, v);
-        return x;
-    }
-
-    private static CreaseFlat withMap(int rows, int columns) {
-        CreaseFlat x = new CreaseFlat();
-        x.map(rows, columns);
-        return x;
-    }
 
     /** All calls that take a paper, of one that is not there. */
     private static void unknownPaper(CreaseFlat x, int paper, String name) {

@@ -12,14 +12,24 @@ public final class AgainstPlainTest {
 
     private static final int[][] MAPS = {{1, 1}, {1, 4}, {4, 1}, {2, 2}, {2, 3}, {3, 2}, {1, 6}, {6, 1}, {1, 7}};
 
+    /** Kind, rows and columns: few of them, as the plain way looks at up to 362,880 rows of faces each time. */
+    private static final int[][] GREAT = {{0, 1, 8}, {0, 1, 9}, {1, 1, 8}, {1, 1, 9}, {2, 3, 3}, {2, 2, 4}, {2, 4, 2}, {2, 9, 1}};
+
     private static PlainPaper randomPaper() {
         int kind = pick(3);
         if (kind == PlainPaper.MAP) {
             int[] size = MAPS[pick(MAPS.length)];
-            return new PlainPaper(kind, size[0], size[1]);
+            return paperOf(kind, size[0], size[1]);
         }
-        int faces = kind == PlainPaper.STRIP ? 1 + pick(7) : 2 + pick(6);
-        PlainPaper p = new PlainPaper(kind, 1, faces);
+        return paperOf(kind, 1, kind == PlainPaper.STRIP ? 1 + pick(7) : 2 + pick(6));
+    }
+
+    private static PlainPaper paperOf(int kind, int rows, int columns) {
+        PlainPaper p = new PlainPaper(kind, rows, columns);
+        if (kind == PlainPaper.MAP) {
+            return p;
+        }
+        int faces = p.faces;
         int spread = 1 + pick(4);
         for (int f = 0; f < faces; f++) {
             p.length[f] = 1 + pick(spread);
@@ -217,15 +227,23 @@ public final class AgainstPlainTest {
         askAlike(x, n, p, rows, name);
     }
 
+    private static void askMarked(PlainPaper p, int how, String name) {
+        if (how == 1) {
+            randomMarks(p);
+        } else if (how == 2) {
+            markAsFolded(p);
+        }
+        ask(p, name + " (kind " + p.kind + ", " + p.rows + " x " + p.columns + ")");
+    }
+
     public static void main(String[] args) {
         for (int i = 0; i < 600; i++) {
-            PlainPaper p = randomPaper();
-            if (i % 3 == 1) {
-                randomMarks(p);
-            } else if (i % 3 == 2) {
-                markAsFolded(p);
+            askMarked(randomPaper(), i % 3, "paper " + i);
+        }
+        for (int[] great : GREAT) {
+            for (int how = 0; how < 3; how++) {
+                askMarked(paperOf(great[0], great[1], great[2]), how, "great paper, marks " + how);
             }
-            ask(p, "paper " + i + " (kind " + p.kind + ", " + p.rows + " x " + p.columns + ")");
         }
         due.end();
     }
